@@ -76,12 +76,8 @@ public final class ClockZones {
     private static final int WORD_SET = ('s' & LETTER_MASK) << 10 | ('e' & LETTER_MASK) << 5
             | ('t' & LETTER_MASK);
 
-    private final byte[] tape = new byte[MOST_TAPE];
-    private int taped = 0;
+    private final Reader reader = new Reader();
     private Plan plan = new Plan();
-    /** Where the next text is read to; it changes places with the plan if it has no fault. */
-    private Plan spare = new Plan();
-    private final Reader reader = new Reader(tape, spare);
     private final Zone[] tables = new Zone[TABLES];
     private final Zone work = new Zone();
     private final Zone timed = new Zone();
@@ -101,29 +97,30 @@ public final class ClockZones {
     // ---- the text ----
 
     public int feed(int a, int b, int c, int d, int e) {
-        if (taped + FED_AT_ONCE > MOST_TAPE) {
+        if (reader.taped + FED_AT_ONCE > MOST_TAPE) {
             return NONE;
         }
-        putBytes(a);
-        putBytes(b);
-        putBytes(c);
-        putBytes(d);
-        putBytes(e);
-        return taped;
+        reader.putBytes(a);
+        reader.putBytes(b);
+        reader.putBytes(c);
+        reader.putBytes(d);
+        reader.putBytes(e);
+        return reader.taped;
     }
 
     public int text(int n) {
-        if (n < 0 || n > taped) {
+        if (n < 0 || n > reader.taped) {
             return -2;
         }
-        taped = 0;
-        if (!reader.readInto(spare, n)) {
+        reader.taped = 0;
+        if (!reader.readText(n)) {
             return NONE;
         }
         Plan old = plan;
-        plan = spare;
-        spare = old;
+        plan = reader.fresh;
+        reader.fresh = old;
         beginAnew();
+        graph.build(plan);
         return plan.lines;
     }
 
@@ -755,20 +752,13 @@ public final class ClockZones {
             case 6:
                 return history.count;
             case 7:
-                return taped;
+                return reader.taped;
             default:
                 return NONE;
         }
     }
 
     // ---- what the face's methods share ----
-
-    private void putBytes(int four) {
-        for (int shift = 24; shift >= 0 && taped < MOST_TAPE; shift -= 8) {
-            tape[taped] = (byte) (four >> shift);
-            taped++;
-        }
-    }
 
     private void beginAnew() {
         for (int t = 0; t < TABLES; t++) {
@@ -777,7 +767,6 @@ public final class ClockZones {
         path.length = 0;
         times.stale = true;
         history.forgetAll();
-        graph.build(plan);
     }
 
     private static boolean isTable(int t) {
@@ -1059,10 +1048,12 @@ public final class ClockZones {
         }
     }
 
-    /** Reads a TEXT token by token; each fault is told at the token that is looked at. */
+    /** Holds the TAPE, and reads it token by token; a fault is told at the token looked at. */
     private static final class Reader {
-        private final byte[] bytes;
-        private Plan plan;
+        private final byte[] tape = new byte[MOST_TAPE];
+        private int taped = 0;
+        /** Where a text is read to; without a fault it changes places with the plan that holds. */
+        private Plan fresh = new Plan();
         private int length = 0;
         private int pos = 0;
         private int kind = TOKEN_END;
@@ -1072,15 +1063,16 @@ public final class ClockZones {
         private int faultKind = 0;
         private int faultAt = NONE;
 
-        private Reader(byte[] source, Plan target) {
-            bytes = source;
-            plan = target;
+        private void putBytes(int four) {
+            for (int shift = 24; shift >= 0 && taped < MOST_TAPE; shift -= 8) {
+                tape[taped] = (byte) (four >> shift);
+                taped++;
+            }
         }
 
-        private boolean readInto(Plan target, int many) {
-            plan = target;
-            plan.clear();
-            length = Math.min(many, bytes.length);
+        private boolean readText(int many) {
+            fresh.clear();
+            length = Math.min(many, MOST_TAPE);
             pos = 0;
             faultKind = 0;
             faultAt = NONE;
@@ -1090,9 +1082,9 @@ public final class ClockZones {
                 if (!readLine()) {
                     return false;
                 }
-                plan.lines++;
+                fresh.lines++;
             }
-            return plan.places > 0 || fail(FAULT_NO_PLACE);
+            return fresh.places > 0 || fail(FAULT_NO_PLACE);
         }
 
         private boolean fail(int what) {
@@ -1125,45 +1117,45 @@ public final class ClockZones {
         }
 
         private boolean readClock() {
-            if (plan.clocks >= MOST_CLOCKS) {
+            if (fresh.clocks >= MOST_CLOCKS) {
                 return fail(FAULT_LIMIT);
             }
             advance();
             if (kind != TOKEN_WORD) {
                 return fail(FAULT_TOKEN);
             }
-            if (plan.clockNamed(number) != NONE) {
+            if (fresh.clockNamed(number) != NONE) {
                 return fail(FAULT_AGAIN);
             }
-            plan.clockNames[plan.clocks] = number;
-            plan.clocks++;
+            fresh.clockNames[fresh.clocks] = number;
+            fresh.clocks++;
             advance();
             return true;
         }
 
         private boolean readPlace() {
-            if (plan.places >= MOST_PLACES) {
+            if (fresh.places >= MOST_PLACES) {
                 return fail(FAULT_LIMIT);
             }
             advance();
             if (kind != TOKEN_WORD) {
                 return fail(FAULT_TOKEN);
             }
-            if (plan.placeNamed(number) != NONE) {
+            if (fresh.placeNamed(number) != NONE) {
                 return fail(FAULT_AGAIN);
             }
-            int p = plan.places;
-            plan.placeNames[p] = number;
-            plan.places++;
+            int p = fresh.places;
+            fresh.placeNames[p] = number;
+            fresh.places++;
             advance();
             return readWhens(stayRules(p));
         }
 
         private boolean readEdge() {
-            if (plan.edges >= MOST_EDGES) {
+            if (fresh.edges >= MOST_EDGES) {
                 return fail(FAULT_LIMIT);
             }
-            int e = plan.edges;
+            int e = fresh.edges;
             advance();
             int from = placeHere();
             if (from == NONE) {
@@ -1175,14 +1167,14 @@ public final class ClockZones {
                 return fail(FAULT_TOKEN);
             }
             advance();
-            plan.from[e] = from;
-            plan.to[e] = to;
-            plan.edges++;
+            fresh.from[e] = from;
+            fresh.to[e] = to;
+            fresh.edges++;
             return readWhens(edgeRules(e)) && readSets(e);
         }
 
         private boolean readStart() {
-            if (plan.started) {
+            if (fresh.started) {
                 return fail(FAULT_AGAIN);
             }
             advance();
@@ -1190,8 +1182,8 @@ public final class ClockZones {
             if (p == NONE) {
                 return fail(FAULT_TOKEN);
             }
-            plan.start = p;
-            plan.started = true;
+            fresh.start = p;
+            fresh.started = true;
             advance();
             return true;
         }
@@ -1215,7 +1207,7 @@ public final class ClockZones {
                 if (!numberHere()) {
                     return false;
                 }
-                plan.addRule(list, clock, rel, number);
+                fresh.addRule(list, clock, rel, number);
                 advance();
             }
             return true;
@@ -1231,25 +1223,25 @@ public final class ClockZones {
                 if (clock == NONE) {
                     return fail(FAULT_TOKEN);
                 }
-                if (plan.numberSet(e, clock) != NONE) {
+                if (fresh.numberSet(e, clock) != NONE) {
                     return fail(FAULT_AGAIN);
                 }
                 advance();
                 if (!numberHere()) {
                     return false;
                 }
-                plan.addSet(e, clock, number);
+                fresh.addSet(e, clock, number);
                 advance();
             }
             return true;
         }
 
         private int clockHere() {
-            return kind == TOKEN_WORD ? plan.clockNamed(number) : NONE;
+            return kind == TOKEN_WORD ? fresh.clockNamed(number) : NONE;
         }
 
         private int placeHere() {
-            return kind == TOKEN_WORD ? plan.placeNamed(number) : NONE;
+            return kind == TOKEN_WORD ? fresh.placeNamed(number) : NONE;
         }
 
         private boolean numberHere() {
@@ -1259,87 +1251,70 @@ public final class ClockZones {
             return number <= GREATEST_NUMBER || fail(FAULT_LIMIT);
         }
 
-        private int byteAt(int i) {
-            return i < length ? bytes[i] & 255 : -1;
-        }
-
-        private static boolean isLetter(int b) {
-            return b >= 'a' && b <= 'z';
-        }
-
-        private static boolean isDigit(int b) {
-            return b >= '0' && b <= '9';
-        }
-
         private void advance() {
-            while (pos < length && (bytes[pos] == 10 || bytes[pos] == 32)) {
+            while (pos < length && (tape[pos] == 10 || tape[pos] == 32)) {
                 pos++;
             }
             at = pos;
-            int b = byteAt(pos);
-            if (b < 0) {
+            if (pos >= length) {
                 kind = TOKEN_END;
-            } else if (isLetter(b)) {
+            } else if (tape[pos] >= 'a' && tape[pos] <= 'z') {
                 readWord();
-            } else if (isDigit(b)) {
+            } else if (tape[pos] >= '0' && tape[pos] <= '9') {
                 readDigits();
             } else {
-                readSign(b);
+                readSign();
             }
         }
 
         private void readWord() {
-            int code = 0;
-            while (pos < length && isLetter(byteAt(pos))) {
+            number = 0;
+            while (pos < length && tape[pos] >= 'a' && tape[pos] <= 'z') {
                 // A longer word is none at all, so that its code may overflow.
-                code = code << LETTER_BITS | byteAt(pos) & LETTER_MASK;
+                number = number << LETTER_BITS | tape[pos] & LETTER_MASK;
                 pos++;
             }
-            number = code;
-            kind = pos - at > LONGEST_WORD ? TOKEN_BAD : kindOfWord(code);
-        }
-
-        private static int kindOfWord(int code) {
-            switch (code) {
-                case WORD_CLOCK:
-                    return TOKEN_CLOCK;
-                case WORD_PLACE:
-                    return TOKEN_PLACE;
-                case WORD_EDGE:
-                    return TOKEN_EDGE;
-                case WORD_START:
-                    return TOKEN_START;
-                case WORD_WHEN:
-                    return TOKEN_WHEN;
-                case WORD_SET:
-                    return TOKEN_SET;
-                default:
-                    return TOKEN_WORD;
+            kind = TOKEN_WORD;
+            if (pos - at > LONGEST_WORD) {
+                kind = TOKEN_BAD;
+            } else if (number == WORD_CLOCK) {
+                kind = TOKEN_CLOCK;
+            } else if (number == WORD_PLACE) {
+                kind = TOKEN_PLACE;
+            } else if (number == WORD_EDGE) {
+                kind = TOKEN_EDGE;
+            } else if (number == WORD_START) {
+                kind = TOKEN_START;
+            } else if (number == WORD_WHEN) {
+                kind = TOKEN_WHEN;
+            } else if (number == WORD_SET) {
+                kind = TOKEN_SET;
             }
         }
 
         private void readDigits() {
             kind = TOKEN_NUMBER;
             number = 0;
-            while (pos < length && isDigit(byteAt(pos))) {
+            while (pos < length && tape[pos] >= '0' && tape[pos] <= '9') {
                 // Once above 50 it stays so, however many digits come.
-                number = Math.min(number * 10 + byteAt(pos) - '0', GREATEST_NUMBER + 1);
+                number = Math.min(number * 10 + tape[pos] - '0', GREATEST_NUMBER + 1);
                 pos++;
             }
         }
 
-        private void readSign(int b) {
+        private void readSign() {
+            int sign = tape[pos];
             pos++;
-            boolean equal = byteAt(pos) == '=';
+            boolean equal = pos < length && tape[pos] == '=';
             kind = TOKEN_REL;
-            if (b == ';') {
+            if (sign == ';') {
                 kind = TOKEN_SEMICOLON;
-            } else if (b == '=') {
+            } else if (sign == '=') {
                 number = REL_EQUAL;
-            } else if (b == '<') {
+            } else if (sign == '<') {
                 number = equal ? REL_AT_MOST : REL_LESS;
                 pos += equal ? 1 : 0;
-            } else if (b == '>') {
+            } else if (sign == '>') {
                 number = equal ? REL_AT_LEAST : REL_MORE;
                 pos += equal ? 1 : 0;
             } else {
@@ -1437,7 +1412,9 @@ public final class ClockZones {
         private void keepRules(Plan plan, int list) {
             for (int k = 0; k < plan.ruleCounts[list]; k++) {
                 int rule = list * MOST_WHENS + k;
-                relate(plan.ruleClocks[rule] + 1, 0, plan.ruleRels[rule], plan.ruleNumbers[rule]);
+                int clock = plan.ruleClocks[rule] + 1;
+                tighten(clock, 0, upperOf(plan.ruleRels[rule], plan.ruleNumbers[rule]));
+                tighten(0, clock, lowerOf(plan.ruleRels[rule], plan.ruleNumbers[rule]));
             }
         }
 
@@ -1489,9 +1466,12 @@ public final class ClockZones {
         }
 
         private void stepBy(Plan plan, int e) {
+            int stay = stayRules(plan.to[e]);
             keepRules(plan, edgeRules(e));
             applySets(plan, e);
-            waitIn(plan, plan.to[e]);
+            keepRules(plan, stay);
+            goUp();
+            keepRules(plan, stay);
         }
 
         private void stepBackBy(Plan plan, int e) {

@@ -138,6 +138,58 @@ public final class PromisesTest {
         due("digits", 50, z.great(0));
     }
 
+    /** What an earlier text told is nowhere in a later one. */
+    private static void textsAnew() {
+        ClockZones z = Probe.of("place a;place b;edge a b;edge b a;start b;");
+        due("can", 1, z.can());
+        Probe.tell(z, "clock x;place a when x>0;");
+        due("can't, by the new text", 0, z.can());
+        Probe.tell(z, "place c;place d;");
+        due("start anew", 0, z.count(4));
+        due("edges anew", 0, z.count(3));
+        due("leads anew", 1, z.leads(0));
+        due("stuck anew", 0, z.stuck());
+        due("can anew", 1, z.can());
+        Probe.tell(z, "clock x;place a;edge a a when x<1 set x 7;");
+        Probe.tell(z, "place a;");
+        Probe.tell(z, "clock x;place a;edge a a;");
+        due("whens anew", -2, z.when(0, 0, 0));
+        due("sets anew", -2, z.set(0, 0, 0));
+        due("great anew", 0, z.great(0));
+        due("tells anew", 0, z.tells(0, 0) + z.tells(0, 1) + z.tells(0, 2));
+    }
+
+    /** As many of each as there may be. */
+    private static void fullText() {
+        StringBuilder text = new StringBuilder("clock a;clock b;clock c;clock d;");
+        for (char p = 'a'; p <= 'h'; p++) {
+            text.append("place ").append(p).append(p == 'h' ? times(" when d<=9", 6) : "").append(";");
+        }
+        for (int e = 0; e < 16; e++) {
+            text.append("edge ").append((char) ('a' + e % 8)).append((char) 32).append((char) ('a' + (e + 1) % 8));
+            text.append(e == 15 ? times(" when d>1", 6) + "set a 1set b 2set c 3set d 4" : "").append(";");
+        }
+        ClockZones z = new ClockZones();
+        due("full text", 28, Probe.tell(z, text.toString()));
+        due("full tells", 32768, z.tells(3, 0));
+        due("full tells", 32768, z.tells(0, 1));
+        due("full tells", 128, z.tells(3, 2));
+        due("full leads", 255, z.leads(7));
+        due("full great", 9, z.great(3));
+        due("last when", 1, z.when(15, 5, 2));
+        due("last set", 4, z.set(15, 3, 1));
+        due("none beyond", -2, z.when(15, 6, 0));
+        due("none beyond", -2, z.set(15, 4, 0));
+        due("last place's stay", 6, z.place(7, 0));
+        due("full deepest", 7, z.deepest(0));
+        due("full reached", 255, z.reached());
+        due("full open", 32896, z.open(z.place(7, 3)));
+        due("step by the last", 0, z.step(0, 15));
+        due("longest in the last", 9, z.longest(1, 7, 0));
+        due("soonest of the last", 1, z.soonest(1, 15, 0));
+        due("fastest to the last", 0, z.fastest(7, 0));
+    }
+
     // 4
     private static void fault() {
         ClockZones z = new ClockZones();
@@ -164,6 +216,9 @@ public final class PromisesTest {
         faultOf("place A;", 1, 6);
         faultOf("place a,", 1, 7);
         faultOf("place a;\t", 1, 8);
+        faultOf("place a;\0", 1, 8);
+        faultOf("\0place a;", 1, 0);
+        faultOf("place a;\u0080", 1, 8);
         faultOf("place a;\r", 1, 8);
         faultOf("place abcdef;", 0, -1);
         faultOf("place abcdefg;", 1, 6);
@@ -775,6 +830,13 @@ public final class PromisesTest {
         due("below 0", -1, z.has(0, 0, 0, -1, 0));
         due("below 0", -1, z.has(0, 0, 0, 0, LEAST));
         due("no such table", -1, z.has(4, 0, 0, 0, 0));
+        ClockZones w = Probe.of("clock a;clock b;clock c;clock d;place p;");
+        due("of four", 0, w.has(0, 0, 0, 1, 0));
+        due("of four", 0, w.has(0, 0, 0, 0, 1));
+        w.reset(0, 2, 3);
+        w.reset(0, 3, 4);
+        due("of four", 1, w.has(0, 0, 0, 6, 8));
+        due("of four", 0, w.has(0, 0, 0, 8, 6));
         z.lay(0, 2);
         due("nothing", 0, z.has(0, 3, 0, 0, 0));
         due("NONE ahead of it", -1, z.has(0, -3, 0, 0, 0));
@@ -1270,6 +1332,8 @@ public final class PromisesTest {
         newObject();
         feed();
         text();
+        textsAnew();
+        fullText();
         fault();
         place();
         edge();
