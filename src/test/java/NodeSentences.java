@@ -227,6 +227,7 @@ final class NodeSentences {
                 "fastest 0 2 = -1", "fastest 0 -1 = -1", "fastest 3 2 = -1", "fastest MOST 0 = -1", "fastest 0 LEAST = -1");
         story.tell(quote, "clock x;place a;place b;place c;edge a b when x>2 set x 0;edge b c when x>=3;", "fastest 1 0 = 2", "fastest 1 1 = 0", "fastest 2 0 = 5", "fastest 2 1 = 0");
         story.tell(quote, "clock x;place a;place b;place c;edge a b when x>=2 set x 9;edge b c when x>=10;", "fastest 1 0 = 2", "fastest 1 1 = 1", "fastest 2 0 = 3", "fastest 2 1 = 1");
+        story.tell(quote, "clock x;place a;place b;place c;edge a b when x>2;edge b c when x>=3;", "fastest 1 0 = 2", "fastest 1 1 = 0", "fastest 2 0 = 3", "fastest 2 1 = 1");
         // Four clocks, all set on the way, so that none of them tells how long it took.
         story.tell(quote, "clock a;clock b;clock c;clock d;place p when a<=3;place q when b<9;place r;edge p q when a>=2 set b 1 set a 7;edge q r when b>4 when d<50 set c 0 set d 5 set a 0 set b 0;", "fastest 1 0 = 2",
                 "fastest 1 1 = 1", "fastest 2 0 = 5", "fastest 2 1 = 0");

@@ -191,6 +191,9 @@ final class TableSentences {
                 "has 0 3 0 0 0 = 0", "has 0 0 7 0 0 = 0", "bound 0 0 1 0 = 1", "bound 0 1 0 0 = 3");
         story.tell(join, TWO, "lay 0 2 = 1", "join 0 1 = 1", "has 0 0 0 0 0 = 1", "has 0 1 0 0 0 = 0", "lay 0 2 = 1", "lay 1 2 = 1", "join 0 1 = 0", "empty 0 = 1",
                 "join 2 1 = 1", "has 2 0 0 0 0 = 1", "count 6 = 6");
+        // An EMPTY one adds nothing, whatever it was made of.
+        story.tell(join, TWO, "lay 1 1 = 1", "meet 1 0 -1 4 9 = 1", "meet 1 0 -1 0 9 = 0", "join 0 1 = 1", "single 0 = 3", "copy 2 1 = 0", "pass 2 0 = 0", "free 2 0 = 0", "reset 2 1 50 = 0", "join 0 2 = 1", "single 0 = 3",
+                "join 2 0 = 1", "single 2 = 3", "has 2 0 0 0 0 = 1");
         noSuchTable("TABLE t is JOIN of both: likewise.", TWO, "join # 0", "-1");
         noSuchTable("TABLE t is JOIN of both: likewise.", TWO, "join 0 #", "-1");
         String both = "TABLE t is MEET with another one: those times that both have: likewise.";
@@ -213,6 +216,9 @@ final class TableSentences {
         story.tell(step, text, "reset 0 0 1 = 1", "step 0 0 = 0");
         // The end's STAY holds behind the sets alone: y is 3 there, which is not below 3.
         story.tell(step, text, "step 0 2 = 0", "undo = 0", "step 0 1 = 1", "has 0 0 6 0 0 = 1", "has 0 10 16 0 0 = 1", "has 0 11 17 0 0 = 0");
+        // Nor may time go on until the end's STAY holds: x is 2 there, and would be 3 later.
+        story.tell(step, "clock x;place a;place b when x>=3;edge a b;edge a b set x 3;", "reset 0 0 2 = 1", "step 0 0 = 0", "reset 1 0 3 = 1", "step 1 0 = 1", "has 1 6 0 0 0 = 1", "has 1 5 0 0 0 = 0", "step 2 1 = 1",
+                "bound 2 -1 0 0 = -3");
         // Neither is the STAY of where it begins asked, nor may time go on ahead of it.
         story.tell("STEP by an EDGE (whichever PLACE): likewise.", text, "reset 0 0 6 = 1", "step 0 0 = 1", "has 0 12 2 0 0 = 1", "reset 1 0 4 = 1", "step 1 1 = 1",
                 "reset 2 0 5 = 1", "step 2 1 = 0", "step 3 -1 = -1", "step 3 3 = -1", "step 3 MOST = -1", "step 3 LEAST = -1", "count 6 = 6");
@@ -406,6 +412,9 @@ final class TableSentences {
         story.tell(within, TWO, "lay 0 1 = 1", "meet 0 0 -1 0 3 = 1", "lay 1 1 = 1", "meet 1 0 -1 1 3 = 1", "within 0 1 = 0", "within 1 0 = 1", "within 0 0 = 1", "within 1 1 = 1",
                 "meet 1 0 -1 0 3 = 1", "within 0 1 = 1", "within 1 0 = 1", "meet 1 0 1 4 -9 = 1", "within 0 1 = 1", "within 1 0 = 0", "within 0 2 = 1", "within 2 0 = 0");
         story.tell(within, TWO, "lay 0 2 = 1", "lay 1 2 = 1", "within 0 1 = 1", "within 0 0 = 1", "within 2 0 = 1", "within 0 2 = 0");
+        // A single clock, by each of its two bounds alone.
+        story.tell(within, "clock x;place a;", "lay 0 1 = 1", "meet 0 0 -1 1 3 = 1", "lay 1 1 = 1", "meet 1 0 -1 1 4 = 1", "within 0 1 = 0", "within 1 0 = 1", "meet 1 0 -1 1 3 = 1", "within 0 1 = 1", "meet 0 0 -1 3 1 = 1",
+                "within 0 1 = 0", "within 1 0 = 1", "meet 1 0 -1 4 1 = 1", "within 0 1 = 1", "within 1 0 = 0");
         noSuchTable(within, TWO, "within # 0", "-1");
         noSuchTable(within, TWO, "within 0 #", "-1");
         String touch = "Whether two TABLES have times in common (1, 0); NONE: no such ones.";
@@ -495,6 +504,9 @@ final class TableSentences {
                 "lay 1 1 = 1", "back 1 1 = 0", "empty 1 = 1", "back 1 0 = 0");
         story.tell(quote, text, "lay 0 1 = 1", "meet 0 1 -1 2 1 = 1", "back 0 0 = 1", "lay 0 1 = 1", "meet 0 1 -1 4 1 = 1", "back 0 0 = 0", "lay 0 1 = 1", "meet 0 0 1 2 -2 = 1",
                 "back 0 2 = 1", "has 0 0 0 0 0 = 1", "has 0 MOST 5 0 0 = 1", "lay 0 1 = 1", "meet 0 0 1 4 -2 = 1", "back 0 2 = 0");
+        // Two sets, neither of them to 0, of an EDGE behind others that have sets: x is 3, y is 1 behind them.
+        story.tell(quote, "clock x;clock y;place a;edge a a set x 9 set y 8;edge a a set y 1 set x 3;", "lay 0 1 = 1", "meet 0 0 1 2 2 = 1", "meet 0 1 -1 2 1 = 1", "back 0 1 = 1", "pairs 0 0 = 2", "has 0 0 99 0 0 = 1",
+                "has 0 99 0 0 0 = 1", "lay 0 1 = 1", "meet 0 1 -1 1 0 = 1", "back 0 1 = 0", "lay 0 1 = 1", "meet 0 0 -1 1 2 = 1", "back 0 1 = 0", "lay 0 1 = 1", "meet 0 0 1 2 1 = 1", "back 0 0 = 1");
         // Without sets it is just the STAY of the end; time doesn't go on, and the STAY of the beginning is not asked.
         story.tell(quote, text, "lay 0 1 = 1", "back 0 3 = 1", "has 0 99 5 0 0 = 1", "has 0 99 6 0 0 = 0", "back 0 -1 = -1", "back 0 4 = -1", "back 0 MOST = -1", "back 0 LEAST = -1",
                 "count 6 = 2", "undo = 1", "has 0 99 6 0 0 = 1");

@@ -149,6 +149,9 @@ final class TraceSentences {
         // By STAY of its end, as one comes; by the last of 20.
         story.tell(quote, "clock x;place a;place b when x<0;edge a a;edge a b;", Story.together(Story.counted(19, "add 0", 1), "breaks = -2", "add 1 = 20", "breaks = 19", "can = 0"));
         story.tell(quote, "clock x;place a;place b when x<0;edge a b;", "add 0 = 1", "breaks = 0");
+        // By STAY of where it begins, by its whens, and by a time that is gone.
+        story.tell(quote, "clock x;place a when x<=3;place b;edge a b when x>3;edge a b when x>=3;edge b b when x<3;edge b b when x<=3;", "add 0 = 1", "breaks = 0", "undo = 0", "add 1 = 1", "breaks = -2", "add 3 = 2", "breaks = -2",
+                "add 2 = 3", "breaks = 2", "add 3 = 4", "breaks = 2");
     }
 
     private void moment() {
