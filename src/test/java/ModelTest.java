@@ -92,7 +92,17 @@ public final class ModelTest {
             }
             ask("feed", five);
         }
-        ask("text", dice.nextInt(12) == 0 ? dice.nextInt(920) : Math.min(900, text.length()));
+        int bytes = Math.min(900, text.length());
+        switch (dice.nextInt(12)) {
+            case 0:
+                ask("text", dice.nextInt(920));
+                break;
+            case 1:
+                ask("text", dice.nextInt(bytes + 1));
+                break;
+            default:
+                ask("text", bytes);
+        }
     }
 
     // ---- calls ----

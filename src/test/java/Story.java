@@ -57,7 +57,10 @@ final class Story {
         return text.replaceAll("\\s+", " ");
     }
 
-    /** Tells a text (none if it is null), then the calls; each is written "name numbers = answer". */
+    /**
+     * Tells a text (none if it is null), then the calls; each is written "name numbers = answer", or
+     * "tell words = answer of text", or "fed words = answer of the last feed", blanks behind the words.
+     */
     void tell(String quote, String text, String... calls) {
         note(quote);
         List<Call> kept = new ArrayList<>();
@@ -176,14 +179,13 @@ final class Story {
             int at = line.lastIndexOf(" = ");
             long due = answer(line.substring(at + 3));
             String call = line.substring(0, at);
+            if (call.startsWith("fed ")) {
+                feed(call.substring(4), due);
+                return;
+            }
             if (call.startsWith("tell ")) {
-                String text = call.substring(5);
-                List<Call> feeds = new ArrayList<>();
-                feeds(feeds, text);
-                for (Call c : feeds) {
-                    one(c, null);
-                }
-                one(new Call("text", text.length()), due);
+                feed(call.substring(5), null);
+                one(new Call("text", call.length() - 5), due);
                 return;
             }
             String[] words = call.split(" ");
@@ -192,6 +194,15 @@ final class Story {
                 args[k] = number(words[k + 1]);
             }
             one(new Call(words[0], args), due);
+        }
+
+        /** How many bytes the TAPE has is due of the last call, unless it is null. */
+        private void feed(String text, Long due) {
+            List<Call> feeds = new ArrayList<>();
+            feeds(feeds, text);
+            for (int k = 0; k < feeds.size(); k++) {
+                one(feeds.get(k), k == feeds.size() - 1 ? due : null);
+            }
         }
 
         private void one(Call call, Long due) {

@@ -113,17 +113,50 @@ final class TextSentences {
                 "tell " + FOUR + EIGHT + Story.times("edge a a;", 16) + "start h; = 29", "count 0 = 29");
     }
 
-    /** Bytes behind the n-th are no part of the text, whatever they would go on with. */
+    /** Bytes behind the n-th are no part of the text, whatever they would go on with: blanks, or what stands there. */
     private void textsLength() {
         String quote = "The TAPE's first n bytes (it is empty then) are the TEXT";
         String text = "clock x;place a when x<=12;";
-        int[][] cuts = {{0, 4, 0}, {1, 1, 0}, {4, 1, 0}, {5, 1, 5}, {6, 1, 6}, {7, 1, 7}, {8, 4, 8}, {9, 1, 8}, {14, 1, 14},
-            {15, 1, 15}, {16, 1, 16}, {17, 1, 16}, {19, 1, 16}, {20, 1, 20}, {22, 1, 22}, {23, 1, 23}, {24, 1, 24}, {25, 1, 25},
-            {26, 1, 26}};
+        int[][] cuts = {{0, 4, 0}, {1, 1, 0}, {4, 1, 0}, {5, 1, 5}, {6, 1, 6}, {7, 1, 7}, {8, 4, 8}, {9, 1, 8}, {12, 1, 8}, {13, 1, 13},
+            {14, 1, 14}, {15, 1, 15}, {16, 1, 16}, {17, 1, 16}, {19, 1, 16}, {20, 1, 20}, {21, 1, 21}, {22, 1, 22}, {23, 1, 23}, {24, 1, 24},
+            {25, 1, 25}, {26, 1, 26}};
         for (int[] c : cuts) {
             story.tell(quote, null, Story.together((Object) cut(text, c)));
+            story.tell(quote, null, "fed " + text + " = 40", "text " + c[0] + " = -1", "fault 0 = " + c[1], "fault 1 = " + c[2], "count 7 = 0", "text 1 = -2");
         }
         story.tell(quote, null, "tell " + text + " = 2");
+        story.tell(quote, null, "fed " + text + "place a; = 40", "text 27 = 2", "count 1 = 1", "place 0 0 = 1");
+        // What would go on: a word, a longer word, another word of the LINES, a number, a REL.
+        cutWithin("place ab;", 7, 1, 7);
+        cutWithin("place abcdefg;", 12, 1, 12);
+        cutWithin("place abcdefg;", 13, 1, 6);
+        cutWithin("place whena;", 10, 1, 6);
+        cutWithin("place placea;", 11, 1, 6);
+        cutWithin("place placea;", 12, 1, 12);
+        cutWithin("clock x;place a when x<501;", 25, 1, 25);
+        cutWithin("clock x;place a when x<501;", 26, 2, 23);
+        cutWithin("clock x;place a when x<=7;", 23, 1, 23);
+        cutWithin("clock x;place a when x>=7;", 23, 1, 23);
+        cutWithin("clock x;place a when x>=7;", 24, 1, 24);
+        // What is left behind the TAPE's end of a longer one ahead is no part of it either.
+        story.tell(quote, null, "fed clock a;place abcdefghi klm; = 40", "text 40 = -1", "fault 1 = 14", "fed clock c;place abcdef = 20", "text 20 = -1", "fault 0 = 1", "fault 1 = 20");
+        String blanks = Story.times(" ", 17);
+        leftBehind(Story.times("q", 40) + "12;", "clock a;place b" + blanks + "when a<5");
+        leftBehind(Story.times("q", 40) + "=5;", "clock a;place b" + blanks + " when a<");
+        leftBehind(Story.times("q", 40) + " 5;", "clock a;place b" + blanks + "when a<=");
+        leftBehind(Story.times("q", 40) + "a5;", "clock a;place b" + blanks + "  when a");
+    }
+
+    private void cutWithin(String text, int n, int kind, int at) {
+        String quote = "The TAPE's first n bytes (it is empty then) are the TEXT";
+        story.tell(quote, null, "fed " + text + " = " + (text.length() + 19) / 20 * 20, "text " + n + " = -1", "fault 0 = " + kind, "fault 1 = " + at);
+    }
+
+    /** Sixty bytes ahead, then forty with which the text ends in the middle of a LINE. */
+    private void leftBehind(String ahead, String text) {
+        String quote = "The TAPE's first n bytes (it is empty then) are the TEXT";
+        story.tell(quote, null, "fed " + ahead + " = 60", "text 60 = -1", "fault 0 = 1", "fault 1 = 0", "fed " + text + " = 40", "text 40 = -1", "fault 0 = 1",
+                "fault 1 = 40", "text 1 = -2");
     }
 
     private static String[] cut(String text, int[] c) {
